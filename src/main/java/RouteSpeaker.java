@@ -111,14 +111,25 @@ public final class RouteSpeaker {
     if (i == NONE) {
       throw new IllegalStateException();
     }
-    return changeOriginated(i, true);
+    if (prefixes.originated[i]) {
+      return false;
+    }
+    prefixes.originated[i] = true;
+    tellAll();
+    return true;
   }
 
   public boolean retract(int length, int address) throws IllegalArgumentException {
     if (!isPrefix(length, address)) {
       throw new IllegalArgumentException();
     }
-    return changeOriginated(prefixes.find(length, address), false);
+    int i = prefixes.find(length, address);
+    if (i == NONE || !prefixes.originated[i]) {
+      return false;
+    }
+    prefixes.originated[i] = false;
+    tellAll();
+    return true;
   }
 
   public boolean start(int p) throws IllegalArgumentException {
@@ -280,15 +291,6 @@ public final class RouteSpeaker {
 
   private static boolean isWithin(int length, int address, int outerLength, int outerAddress) {
     return length >= outerLength && (address ^ outerAddress) <= (255 >> outerLength);
-  }
-
-  private boolean changeOriginated(int i, boolean originated) {
-    if (i == NONE || prefixes.originated[i] == originated) {
-      return false;
-    }
-    prefixes.originated[i] = originated;
-    tellAll();
-    return true;
   }
 
   private Route routeOf(int who, int i) {
@@ -559,9 +561,9 @@ public final class RouteSpeaker {
     }
   }
 
-  /** The best route's tests, in their order: in each one the least measure goes on. */
+  /** The tests for the best route, in their order: of each one the least measure goes on. */
   static final class Choice {
-    private static final int TESTS = 8;
+    private static final int TESTS = 7;
     private static final int METRIC_TEST = 3;
 
     private final int[][] measures = new int[TESTS][CANDIDATES];
@@ -584,16 +586,18 @@ public final class RouteSpeaker {
       measures[4][who] = internal ? 1 : 0;
       measures[5][who] = route.sourceOr(id);
       measures[6][who] = route.clusterCount;
-      measures[7][who] = who == OWN ? -1 : who;
     }
 
     int winner() {
       for (int test = 0; test < TESTS; test++) {
         dropBeaten(test);
       }
-      for (int who = 0; who < CANDIDATES; who++) {
-        if (left[who]) {
-          return who;
+      if (left[OWN]) {
+        return OWN;
+      }
+      for (int p = 0; p < PEERS; p++) {
+        if (left[p]) {
+          return p;
         }
       }
       return NONE;
@@ -677,12 +681,11 @@ public final class RouteSpeaker {
       bytes[0] = size;
     }
 
-    // The size, and before the attributes their bytes, are 0 here: they are counted when all is written.
+    // The size of it, and of its attributes, is put in when all is written.
     private void begin(int withdrawn) {
-      size = 0;
-      add(0);
-      add(UPDATE);
-      add(withdrawn);
+      bytes[1] = UPDATE;
+      bytes[2] = withdrawn;
+      size = 3;
     }
 
     private void endAnnouncement() {

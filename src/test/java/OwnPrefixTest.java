@@ -74,6 +74,9 @@ final class OwnPrefixTest {
     Checks.announce(x, 0, Checks.plain(0), 8, 0, 8, 60, 8, 60, 8, 61, 8, 0);
     Checks.same("two more", x.known(), 12);
     Checks.same("the session goes on", x.session(0, 0), 3);
+    Checks.announce(x, 1, Checks.plain(1), 8, 0, 8, 9, 8, 60, 8, 61, 8, 0);
+    Checks.same("all of these are known", x.session(1, 0), 3);
+    Checks.same("and there", x.flaw(1, 8, 9), 0);
     Checks.announce(x, 0, Checks.plain(0), 8, 1, 8, 62);
     Checks.row("END 6, 1", Checks.sent(x, 0), 4, 3, 6, 1);
     Checks.same("ended", x.session(0, 0), 0);
@@ -86,6 +89,9 @@ final class OwnPrefixTest {
     Checks.announce(y, 0, Checks.plain(0), 8, 60, 8, 61);
     Checks.row("END 6, 1 at once", Checks.sent(y, 0), 4, 3, 6, 1);
     Checks.same("none of them", y.known(), 11);
+    Checks.announce(y, 1, Checks.plain(1), 8, 62, 8, 62, 8, 62);
+    Checks.same("one, announced three times", y.known(), 12);
+    Checks.same("is not too many", y.session(1, 0), 3);
   }
 
   private static void orderOfTheKnown() {

@@ -24,6 +24,7 @@ final class RouteTest {
     penaltyDecays();
     dampedByChange();
     dampedByWithdrawing();
+    dampedNearTheBounds();
     dampedStays();
     penaltyStays();
     forwarding();
@@ -101,6 +102,10 @@ final class RouteTest {
       Checks.same("7 in CLUSTERS", x.flaw(0, 8, 3), due);
       Checks.announce(x, 0, with(good, 9, 1, 8, 10, 2, 3, 100), 8, 4);
       Checks.same("neither", x.flaw(0, 8, 4), 0);
+      Checks.announce(x, 0, with(good, 10, 3, 7, 1, 2), 8, 4);
+      Checks.same("7 first in CLUSTERS", x.flaw(0, 8, 4), due);
+      Checks.announce(x, 0, Checks.inner(0, Checks.path(role == 0 ? 200 : 100, 100), 30, 5), 8, 4);
+      Checks.same("100 first in the PATH", x.flaw(0, 8, 4), 1);
       Checks.fails("not the best", Checks.NO_ELEMENT, () -> x.best(8, 1, 0));
       Checks.same("but known", x.known(), 4);
       Checks.announce(x, 0, good, 8, 1);
@@ -187,6 +192,12 @@ final class RouteTest {
     who("none counts as 0, and peer 1 is out by that", x, 2);
     Checks.announce(x, 0, with(Checks.inner(0, Checks.path(5, 6), 30, 9), 4, 1, 0), 8, 9);
     who("0 is the same as none", x, 0);
+    Checks.announce(x, 3, with(Checks.inner(0, Checks.path(5, 5), 30, 9), 9, 1, 1), 8, 9);
+    who("none is the same as 0", x, 3);
+    Checks.announce(x, 0, with(Checks.inner(0, Checks.path(5, 6), 30, 9), 4, 1, 1), 8, 9);
+    Checks.announce(x, 3, with(Checks.inner(0, Checks.path(5, 5), 30, 9), 9, 1, 200), 8, 9);
+    x.stop(2);
+    who("and less than 1", x, 3);
   }
 
   private static void metricOfEmptyPaths() {
@@ -194,6 +205,12 @@ final class RouteTest {
     Checks.announce(x, 0, with(Checks.inner(0, Checks.path(), 30, 9), 4, 1, 2), 8, 9);
     Checks.announce(x, 1, with(Checks.inner(0, Checks.path(), 30, 9), 4, 1, 1), 8, 9);
     who("empty ones are likewise", x, 1);
+    Checks.announce(x, 0, with(Checks.inner(0, Checks.path(), 30, 100), 9, 1, 1), 8, 9);
+    Checks.announce(x, 0, with(Checks.inner(0, Checks.path(3), 30, 100), 4, 1, 1), 8, 9);
+    Checks.announce(x, 1, with(Checks.inner(0, Checks.path(4), 30, 100), 4, 1, 1), 8, 9);
+    Checks.announce(x, 0, with(Checks.inner(0, Checks.path(), 30, 100), 4, 1, 1), 8, 9);
+    Checks.announce(x, 1, with(Checks.inner(0, Checks.path(), 30, 100), 4, 1, 0), 8, 9);
+    who("whatever their earlier ones began with", x, 1);
     Checks.announce(x, 0, with(Checks.inner(0, Checks.path(), 30, 100), 9, 1, 1), 8, 9);
     x.originate(8, 9);
     who("the own is left", x, Checks.OWN);
@@ -332,9 +349,11 @@ final class RouteTest {
         with(base, 9, 1, 5, 10, 2, 1, 2), with(base, 4, 1, 1, 9, 1, 5, 10, 2, 1, 2),
         with(base, 4, 1, 0, 10, 2, 1, 2), with(base, 4, 1, 0, 9, 1, 6, 10, 2, 1, 2),
         with(base, 4, 1, 0, 9, 1, 5), with(base, 4, 1, 0, 9, 1, 5, 10, 2, 1, 3),
-        with(base, 4, 1, 0, 9, 1, 5, 10, 1, 1), with(base, 4, 1, 0, 9, 1, 5, 10, 3, 1, 2, 2)};
+        with(base, 4, 1, 0, 9, 1, 5, 10, 1, 1), with(base, 4, 1, 0, 9, 1, 5, 10, 3, 1, 2, 2),
+        with(base, 4, 1, 0, 9, 1, 5, 10, 2, 2, 2)};
+    changeOfTheFirstNetwork();
     // For an external peer PREFERENCE, SOURCE and CLUSTERS don't matter.
-    double[] outer = {500, 500, 500, 500, 500, 0, 500, 500, 0, 0, 0, 0, 0, 0};
+    double[] outer = {500, 500, 500, 500, 500, 0, 500, 500, 0, 0, 0, 0, 0, 0, 0};
     for (int k = 0; k < others.length; k++) {
       RouteSpeaker x = Checks.allUp(0, 1, 2, 0);
       for (int p = 0; p < 3; p++) {
@@ -343,6 +362,13 @@ final class RouteTest {
         Checks.same("change " + k + " of role " + p, x.penalty(p, 8, 9), p == 0 ? outer[k] : 500.0);
       }
     }
+  }
+
+  private static void changeOfTheFirstNetwork() {
+    RouteSpeaker x = Checks.allUp(1, 0, 0, 0);
+    Checks.announce(x, 0, Checks.inner(0, Checks.path(5, 6), 30, 9), 8, 9);
+    Checks.announce(x, 0, Checks.inner(0, Checks.path(6, 6), 30, 9), 8, 9);
+    Checks.same("another first network", x.penalty(0, 8, 9), 500.0);
   }
 
   private static void penaltyDecays() {
@@ -403,6 +429,35 @@ final class RouteTest {
     Checks.same("below 750", y.penalty(0, 8, 9) < 750.0, true);
     Checks.row("told at the end of the tick", Checks.sent(y, 1),
         16, 2, 0, 10, 1, 1, 0, 2, 2, 100, 200, 3, 1, 7, 8, 9);
+  }
+
+  /** A run of calls: c another route comes, w it goes and comes again, t a tick. */
+  private static RouteSpeaker comesAndGoes(String run) {
+    RouteSpeaker x = Checks.allUp();
+    Checks.announce(x, 0, route(30), 8, 9);
+    for (int k = 0; k < run.length(); k++) {
+      if (run.charAt(k) == 't') {
+        Checks.feed(x, 0, 2, 4);
+        x.tick();
+        Checks.sent(x, 0);
+      } else if (run.charAt(k) == 'c') {
+        Checks.announce(x, 0, route(31 + k), 8, 9);
+      } else {
+        Checks.feed(x, 0, Checks.update(Checks.ints(8, 9), route(31 + k), 8, 9));
+      }
+    }
+    return x;
+  }
+
+  private static void dampedNearTheBounds() {
+    Object[][] runs = {{"wttttwttctc", 2000.1177787780762, 2}, {"cwtctttctc", 1999.9542236328125, 0},
+        {"wwcttttttttt", 751.6445033252239, 2}, {"wwctttctttttttt", 747.2822807612829, 0},
+        {"cccc", 2000.0, 0}, {"ww", 2000.0, 0}, {"wwc", 2500.0, 2}};
+    for (Object[] run : runs) {
+      RouteSpeaker x = comesAndGoes((String) run[0]);
+      Checks.same(run[0] + " penalty", x.penalty(0, 8, 9), run[1]);
+      Checks.same(run[0] + " flaw", x.flaw(0, 8, 9), run[2]);
+    }
   }
 
   private static void dampedStays() {

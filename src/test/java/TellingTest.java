@@ -186,6 +186,11 @@ final class TellingTest {
     Checks.up(x, 0, 200, 20);
     Checks.row("all again in a new session", Checks.sent(x, 0),
         Checks.join(Checks.ints(6, 1, 4, 100, 9, 7, 2, 4), due));
+    x.stop(0);
+    x.retract(8, 9);
+    Checks.sent(x, 0);
+    Checks.up(x, 0, 200, 20);
+    Checks.row("no withdrawal of what an earlier session was told", Checks.sent(x, 0), 6, 1, 4, 100, 9, 7, 2, 4);
   }
 
   private static void behindEachMessage() {
@@ -283,6 +288,14 @@ final class TellingTest {
     x.retract(8, 1);
     Checks.same("closed by a withdrawal", x.session(0, 0), 0);
     Checks.same("nothing more sent", x.session(0, 5), 199);
+    RouteSpeaker y = new RouteSpeaker();
+    y.originate(8, 1);
+    fill(y, 176);
+    Checks.up(y, 0, 200, 20);
+    y.tick();
+    y.tick();
+    Checks.same("199", y.session(0, 5), 199);
+    Checks.same("201 are too many", y.tick(), 0);
   }
 
   private static void overflowOfStart() {

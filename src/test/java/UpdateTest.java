@@ -59,6 +59,11 @@ final class UpdateTest {
     good("withdrawn alone", 0, Checks.update(Checks.ints(8, 1, 0, 0), NONE));
     good("attributes alone", 0, Checks.update(NONE, GOOD));
     good("announced", 0, with(GOOD));
+    RouteSpeaker x = Checks.allUp();
+    Checks.announce(x, 0, GOOD, 8, 200, 6, 200);
+    Checks.feed(x, 0, Checks.update(NONE, Checks.ints(200, 6, 0, 0, 0, 0, 0, 0)));
+    Checks.feed(x, 0, Checks.update(NONE, Checks.ints(200, 4, 8, 200, 6, 200)));
+    Checks.same("attributes are no prefixes", x.best(8, 200, 0) + x.best(6, 200, 0), 0);
     good("60 bytes", 0, Checks.update(NONE, Checks.join(GOOD, Checks.attribute(200, new int[43])), 8, 9));
   }
 
@@ -157,6 +162,17 @@ final class UpdateTest {
   private static void firstNetwork() {
     wrong("another network first", 0, with(Checks.outer(0, Checks.path(201, 200), 30)), 11);
     wrong("an empty PATH", 0, with(Checks.outer(0, Checks.path(), 30)), 11);
+    RouteSpeaker x = Checks.allUp();
+    Checks.announce(x, 0, GOOD, 8, 9);
+    Checks.announce(x, 0, Checks.outer(0, Checks.path(), 30), 8, 9);
+    Checks.row("an empty PATH behind a good one", Checks.sent(x, 0), 4, 3, 3, 11);
+    for (int network : new int[] {1, 250}) {
+      x.peer(0, 0, network);
+      Checks.up(x, 0, network, 20);
+      Checks.sent(x, 0);
+      Checks.announce(x, 0, Checks.outer(0, Checks.path(), 30), 8, 9);
+      Checks.row("an empty PATH for " + network, Checks.sent(x, 0), 4, 3, 3, 11);
+    }
     good("its network first", 0, with(Checks.outer(0, Checks.path(200, 201), 30)));
     for (int role = 1; role <= 2; role++) {
       good("an internal one's empty PATH", role, with(Checks.inner(0, Checks.path(), 30, 5)));
@@ -202,6 +218,18 @@ final class UpdateTest {
 
   private static void nothingOfAWrongOne() {
     RouteSpeaker x = Checks.allUp();
+    for (int name : new int[] {0, 6, 200, 255}) {
+      int[] twice = Checks.update(NONE, Checks.ints(name, 0, name, 0));
+      int[] once = Checks.update(NONE, Checks.ints(name, 0));
+      Checks.feed(x, 1, twice);
+      Checks.feed(x, 2, once);
+      Checks.row("name " + name + " twice", Checks.sent(x, 1), 4, 3, 3, name < 128 ? 2 : 1);
+      Checks.row("each message by itself", Checks.sent(x, 2), name < 128 ? Checks.ints(4, 3, 3, 2) : NONE);
+      for (int p = 1; p <= 2; p++) {
+        Checks.up(x, p, 200 + p, 20 + p);
+        Checks.sent(x, p);
+      }
+    }
     Checks.announce(x, 0, GOOD, 8, 9);
     Checks.feed(x, 0, Checks.update(Checks.ints(8, 9), GOOD, 8, 10, 9, 0));
     Checks.same("nothing of it is known", x.known(), 1);
