@@ -1,6 +1,10 @@
 import java.util.Arrays;
 
-/** Random runs of calls, each answer compared with that of the model. The numbers are always the same ones. */
+/**
+ * Random runs of calls, each answer compared with that of the model. The numbers are always the same ones; an argument
+ * says how many runs. With what is only looked at, a run has more than the 512 calls that are promised: nothing in this
+ * program or in the model depends on how many there were, and so more of what meets late is tried.
+ */
 final class ModelTest {
   private static final int RUNS = 250;
   private static final int CALLS = 400;
