@@ -15,16 +15,26 @@ final class Checks {
   static final Class<?> ILLEGAL_STATE = IllegalStateException.class;
   static final Class<?> NO_ELEMENT = NoSuchElementException.class;
 
+  private static String about = "";
   private static int wrong;
   private static int checked;
 
   private Checks() {}
 
+  /** What the checks that follow are about, for what is printed of the wrong ones. */
+  static void setAbout(String words) {
+    about = words.isEmpty() ? "" : "[" + words + "] ";
+  }
+
+  static int checked() {
+    return checked;
+  }
+
   static void same(String what, Object got, Object due) {
     checked++;
     if (!got.equals(due)) {
       wrong++;
-      System.out.println(what + ": answered " + got + ", due is " + due);
+      System.out.println(about + what + ": answered " + got + ", due is " + due);
     }
   }
 
@@ -43,6 +53,29 @@ final class Checks {
     } catch (RuntimeException e) {
       return e.getClass().getSimpleName();
     }
+  }
+
+  /** What a call without an answer throws, or "done". */
+  static void refused(String what, Class<?> due, Runnable call) {
+    fails(what, due, () -> done(call));
+  }
+
+  static Object done(Runnable call) {
+    call.run();
+    return "done";
+  }
+
+  /** Nothing of a session is left (but what was sent, and not taken). */
+  static void idle(String what, RouteSpeaker x, int p) {
+    for (int k : new int[] {0, 1, 2, 3, 4, 6}) {
+      same(what + ": session(" + p + ", " + k + ")", x.session(p, k), 0);
+    }
+  }
+
+  /** The session was ended with a code and subcode, and this alone was sent since the last look. */
+  static void ended(String what, RouteSpeaker x, int p, int code, int subcode) {
+    row(what, sent(x, p), 4, 3, code, subcode);
+    idle(what, x, p);
   }
 
   static void finish() {
@@ -119,6 +152,21 @@ final class Checks {
   static int[] update(int[] withdrawn, int[] attributes, int... announced) {
     int[] rest = join(ints(2, withdrawn.length / 2), withdrawn, ints(attributes.length), attributes, announced);
     return join(ints(rest.length + 1), rest);
+  }
+
+  /** What is sent to tell a route. */
+  static int[] told(int[] attributes, int... prefix) {
+    return update(NOTHING, attributes, prefix);
+  }
+
+  /** What is sent to an external peer without a padding, of a route with ORIGIN 0 and this PATH. */
+  static int[] toldOut(int[] path, int... prefix) {
+    return told(outer(0, path(join(ints(100), path)), 7), prefix);
+  }
+
+  /** What is sent to tell that nothing is told any more. */
+  static int[] untold(int length, int address) {
+    return ints(6, 2, 1, length, address, 0);
   }
 
   static void announce(RouteSpeaker x, int p, int[] attributes, int... prefixes) {
