@@ -123,6 +123,20 @@ final class Checks {
     return all;
   }
 
+  /** Brings the idle session of an external peer with its first network to a state, and takes nothing. */
+  static void bring(RouteSpeaker x, int p, int state, int hold) {
+    if (state >= 1) {
+      x.start(p);
+    }
+    if (state >= 2) {
+      feed(x, p, 6, 1, 4, 200 + p, hold, 20 + p);
+    }
+    if (state >= 3) {
+      feed(x, p, 2, 4);
+    }
+    same("the state", x.session(p, 0), state);
+  }
+
   static void agree(RouteSpeaker x, int p, int network, int hold, int id) {
     x.start(p);
     feed(x, p, 6, 1, 4, network, hold, id);

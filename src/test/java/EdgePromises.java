@@ -10,16 +10,17 @@ final class EdgePromises {
     Sentences.holds("All sessions idle, no rules, nothing originated.", EdgePromises::newObject);
     Sentences.holds("Peer p gets a role, and the network if it is external (else that is not looked at); "
         + "all else of it stays.", EdgePromises::peer);
-    Sentences.holds("IllegalArgumentException when there is no such peer or role, or the network of an external one is "
-        + "not 1 .. 250 or is 100; else IllegalStateException when its session is not idle.", EdgePromises::peerRefused);
+    Sentences.holds("IllegalArgumentException when there is no such peer or role, or the network of an external one "
+        + "is not 1 .. 250 or is 100; else IllegalStateException when its session is not idle.",
+        EdgePromises::peerRefused);
     Sentences.holds("Peer p gets one more rule. IllegalArgumentException when there is no such peer, it is no prefix, "
         + "or the action is not 0 .. 200; else IllegalStateException when it has 3.", EdgePromises::rule);
     Sentences.holds("Peer p has no rules any more. IllegalArgumentException when there is no such peer.",
         EdgePromises::unrule);
     Sentences.holds("Peer p gets a padding, and is mute for a prefix and all within it, or, for a length of -1, "
         + "for nothing.", EdgePromises::outbound);
-    Sentences.holds("IllegalArgumentException when there is no such peer, the padding is not 0 .. 3, or it is no prefix.",
-        EdgePromises::outboundRefused);
+    Sentences.holds("IllegalArgumentException when there is no such peer, the padding is not 0 .. 3, "
+        + "or it is no prefix.", EdgePromises::outboundRefused);
     Sentences.holds("The speaker originates a prefix: true, or false when it does already. IllegalArgumentException "
         + "when it is none; else IllegalStateException when it is not known and 12 are.", EdgePromises::originate);
     Sentences.holds("The speaker originates a prefix no longer: true, or false when it doesn't. "
@@ -30,7 +31,8 @@ final class EdgePromises {
         EdgePromises::lowestBytes);
     Sentences.holds("what comes when the session is idle is lost: true; false when it is idle before.",
         EdgePromises::fedWhenIdle);
-    Sentences.holds("IllegalArgumentException when there is no such peer or n is not 1 .. 8.", EdgePromises::feedRefused);
+    Sentences.holds("IllegalArgumentException when there is no such peer or n is not 1 .. 8.",
+        EdgePromises::feedRefused);
     Sentences.holds("The first byte (0 .. 255) that was sent to peer p, which is taken. IllegalArgumentException when "
         + "there is no such peer; else NoSuchElementException when there is none.", EdgePromises::take);
     Sentences.holds("A tick: how many sessions are up then.", EdgePromises::tick);
@@ -133,13 +135,7 @@ final class EdgePromises {
     }
     for (int state = 1; state <= 3; state++) {
       RouteSpeaker y = new RouteSpeaker();
-      y.start(1);
-      if (state > 1) {
-        Checks.feed(y, 1, 6, 1, 4, 201, 9, 21);
-      }
-      if (state > 2) {
-        Checks.feed(y, 1, 2, 4);
-      }
+      Checks.bring(y, 1, state, 9);
       for (int role = 0; role <= 2; role++) {
         int r = role;
         Checks.refused("in state " + state, Checks.ILLEGAL_STATE, () -> y.peer(1, r, 201));
@@ -264,6 +260,7 @@ final class EdgePromises {
       Checks.refused("no prefix " + no[0] + ", " + no[1], Checks.ILLEGAL_ARGUMENT, () -> x.retract(no[0], no[1]));
     }
     Checks.same("one that is not known", x.retract(8, 9), false);
+    Checks.same("nor is it known by that", x.known(), 0);
     Checks.announce(x, 0, Checks.plain(0), 8, 9);
     Checks.same("one that a peer announced", x.retract(8, 9), false);
     x.originate(8, 9);
@@ -293,15 +290,7 @@ final class EdgePromises {
   private static void stop() {
     for (int state = 0; state <= 3; state++) {
       RouteSpeaker x = new RouteSpeaker();
-      if (state > 0) {
-        x.start(1);
-      }
-      if (state > 1) {
-        Checks.feed(x, 1, 6, 1, 4, 201, 9, 20);
-      }
-      if (state > 2) {
-        Checks.feed(x, 1, 2, 4);
-      }
+      Checks.bring(x, 1, state, 9);
       Checks.sent(x, 1);
       Checks.same("stop in " + state, x.stop(1), state > 0);
       Checks.row("NOTIFICATION", Checks.sent(x, 1), state > 0 ? Checks.ints(4, 3, 6, 2) : NONE);

@@ -290,6 +290,12 @@ final class EdgeRoutes {
     Checks.announce(x, 1, with(innerWithMetric(8, 5, 2), 9, 1, 2), 8, 9);
     Checks.announce(x, 2, with(innerWithMetric(7, 5, 3), 9, 1, 3), 8, 9);
     best("the least of three that begin alike", x, 2);
+    RouteSpeaker y = Checks.allUp(1, 2, 0, 0);
+    Checks.announce(y, 0, innerWithMetric(1, 6), 8, 9);
+    Checks.announce(y, 1, innerWithMetric(1, 5), 8, 9);
+    Checks.announce(y, 0, innerWithMetric(1), 8, 9);
+    Checks.announce(y, 1, innerWithMetric(0), 8, 9);
+    best("empty ones where others were before", y, 1);
     x.originate(8, 8);
     Checks.announce(x, 0, with(innerWithMetric(1), 9, 1, 1), 8, 8);
     Checks.announce(x, 1, with(innerWithMetric(0), 9, 1, 2), 8, 8);

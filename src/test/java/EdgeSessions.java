@@ -49,17 +49,8 @@ final class EdgeSessions {
   /** A session of peer 0 in a state, with nothing of what was sent left. */
   private static RouteSpeaker inState(int state) {
     RouteSpeaker x = new RouteSpeaker();
-    if (state >= 1) {
-      x.start(0);
-    }
-    if (state >= 2) {
-      Checks.feed(x, 0, OPEN);
-    }
-    if (state >= 3) {
-      Checks.feed(x, 0, KEEPALIVE);
-    }
+    Checks.bring(x, 0, state, 9);
     Checks.sent(x, 0);
-    Checks.same("the state", x.session(0, 0), state);
     return x;
   }
 

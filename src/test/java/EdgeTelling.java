@@ -192,6 +192,23 @@ final class EdgeTelling {
     }
     Checks.agree(x, 2, 202, 9, 22);
     Checks.same("nothing behind tick(), but KEEPALIVE", Checks.sent(x, 3).length, 4);
+    prefixesBeforePeers();
+  }
+
+  private static void prefixesBeforePeers() {
+    // Peer 1 has room for 8, 2 alone; it is closed behind peer 2 was told 8, 2 and before it is told 8, 3.
+    RouteSpeaker x = new RouteSpeaker();
+    EdgeSent.fill(x, 1, 168);
+    for (int p = 0; p < 3; p++) {
+      Checks.up(x, p, 200 + p, 20 + p);
+    }
+    Checks.announce(x, 1, Checks.plain(1), 8, 1);
+    Checks.sent(x, 2);
+    Checks.announce(x, 0, Checks.plain(0), 8, 2, 8, 3);
+    Checks.same("the row of peer 1", x.session(1, 5), 168 + 8 + 16);
+    Checks.idle("closed", x, 1);
+    Checks.row("what peer 2 is told", Checks.sent(x, 2), Checks.join(Checks.toldOut(Checks.ints(200), 8, 2),
+        Checks.untold(8, 1), Checks.toldOut(Checks.ints(200), 8, 3)));
   }
 
   private static void compared() {

@@ -65,13 +65,7 @@ final class EdgeTicks {
     for (int hold : new int[] {3, 9}) {
       for (int state = 1; state <= 3; state++) {
         RouteSpeaker x = new RouteSpeaker();
-        x.start(0);
-        if (state > 1) {
-          Checks.feed(x, 0, 6, 1, 4, 200, hold, 20);
-        }
-        if (state > 2) {
-          Checks.feed(x, 0, 2, 4);
-        }
+        Checks.bring(x, 0, state, hold);
         int ticks = state == 1 ? 8 : hold;
         for (int k = 1; k < ticks; k++) {
           Checks.same("how many are up", x.tick(), state == 3 ? 1 : 0);
@@ -198,6 +192,10 @@ final class EdgeTicks {
         Checks.same("and back", x.penalty(p, 8, 9), k < 5 || k < 8 && p > 0 ? 1000.0 : 0.0);
       }
     }
+    RouteSpeaker y = Checks.allUp(1, 0, 0, 0);
+    Checks.announce(y, 0, base, 8, 9);
+    Checks.announce(y, 0, Checks.inner(0, Checks.path(201, 5), 30, 60), 8, 9);
+    Checks.same("another first network", y.penalty(0, 8, 9), 500.0);
     RouteSpeaker x = Checks.allUp();
     Checks.announce(x, 0, route(30), 8, 9, 8, 9, 8, 9);
     Checks.same("announced three times at once", x.penalty(0, 8, 9), 0.0);
@@ -282,6 +280,7 @@ final class EdgeTicks {
     x.tick();
     Checks.same("no longer", x.flaw(0, 8, 9), 0);
     Checks.row("told by that tick", Checks.sent(x, 1), Checks.toldOut(Checks.ints(200), 8, 9));
+    Checks.same("the last one that came", x.best(8, 9, 4), 35);
     RouteSpeaker y = comesAndGoes("ccccc");
     y.stop(0);
     Checks.up(y, 0, 200, 20);

@@ -243,6 +243,15 @@ final class EdgeUpdates {
     RouteSpeaker x = Checks.allUp();
     Checks.feed(x, 0, Checks.join(alone(255, 0, 1, 1, 0), alone(255, 0, 1, 1, 0)));
     Checks.same("once in each of two messages", x.session(0, 0), 3);
+    for (int name : new int[] {0, 127}) {
+      Checks.feed(x, 1, alone(name, 0));
+      Checks.sent(x, 1);
+      Checks.feed(x, 2, alone(name, 0));
+      Checks.ended(name + ", though another message had it", x, 2, 3, 2);
+      Checks.up(x, 1, 201, 21);
+      Checks.up(x, 2, 202, 22);
+      Checks.sent(x, 2);
+    }
   }
 
   private static void noSuchName() {
@@ -339,6 +348,16 @@ final class EdgeUpdates {
     leads("nothing is announced", 0, alone(Checks.outer(0, Checks.path(201), 30)));
     leads("nothing is announced, an empty one", 0, alone(Checks.outer(0, Checks.path(), 30)));
     leads("itself alone", 0, with(GOOD));
+    for (int network : new int[] {1, 250}) {
+      RouteSpeaker x = new RouteSpeaker();
+      x.peer(0, 0, network);
+      Checks.up(x, 0, network, 20);
+      Checks.sent(x, 0);
+      Checks.announce(x, 0, Checks.outer(0, Checks.path(network), 30), 8, 9);
+      Checks.same("network " + network + " first", x.session(0, 0), 3);
+      Checks.announce(x, 0, Checks.outer(0, Checks.path(), 30), 8, 9);
+      Checks.ended("an empty one behind it", x, 0, 3, 11);
+    }
   }
 
   private static void noPrefix() {
@@ -376,6 +395,12 @@ final class EdgeUpdates {
     Checks.same("12 would be known", x.session(0, 0) * 100 + x.known(), 312);
     Checks.announce(x, 0, GOOD, 8, 11, 8, 5, 8, 0);
     Checks.same("all of them are known", x.session(0, 0), 3);
+    RouteSpeaker z = Checks.allUp();
+    Checks.announce(z, 0, GOOD, 8, 0, 8, 1, 8, 2, 8, 3, 8, 4, 8, 5, 8, 6, 8, 7, 8, 8, 8, 9, 8, 10);
+    Checks.announce(z, 1, Checks.plain(1), 0, 0, 1, 0);
+    Checks.same("two of one address, and another length", z.session(1, 0), 0);
+    Checks.announce(z, 2, Checks.plain(2), 0, 0, 0, 0);
+    Checks.same("one twice", z.session(2, 0) * 100 + z.known(), 312);
     RouteSpeaker y = Checks.allUp();
     Checks.announce(y, 0, GOOD, 8, 20, 8, 21, 8, 22);
     Checks.announce(y, 1, Checks.plain(1), 8, 23, 8, 24, 8, 25, 8, 26, 8, 27, 8, 28, 8, 29, 8, 30);

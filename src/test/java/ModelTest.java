@@ -169,13 +169,8 @@ final class ModelTest {
   }
 
   private void setPeer(int p, int role, int network) {
-    compare("peer(" + p + ", " + role + ", " + network + ")", () -> {
-      x.peer(p, role, network);
-      return "done";
-    }, () -> {
-      m.peer(p, role, network);
-      return "done";
-    });
+    compare("peer(" + p + ", " + role + ", " + network + ")", () -> Checks.done(() -> x.peer(p, role, network)),
+        () -> Checks.done(() -> m.peer(p, role, network)));
     if (p >= 0 && p < 4 && story.toString().endsWith("done\n")) {
       roles[p] = role;
       networks[p] = role == 0 ? network : 100;
@@ -217,21 +212,17 @@ final class ModelTest {
     switch (random(3)) {
       case 0:
         compare("rule(" + p + ", " + length + ", " + address + ", " + number + ")",
-            () -> done(() -> x.rule(p, length, address, number)), () -> done(() -> m.rule(p, length, address, number)));
+            () -> Checks.done(() -> x.rule(p, length, address, number)),
+            () -> Checks.done(() -> m.rule(p, length, address, number)));
         break;
       case 1:
-        compare("unrule(" + p + ")", () -> done(() -> x.unrule(p)), () -> done(() -> m.unrule(p)));
+        compare("unrule(" + p + ")", () -> Checks.done(() -> x.unrule(p)), () -> Checks.done(() -> m.unrule(p)));
         break;
       default:
         compare("outbound(" + p + ", " + padding + ", " + muteLength + ", " + address + ")",
-            () -> done(() -> x.outbound(p, padding, muteLength, address)),
-            () -> done(() -> m.outbound(p, padding, muteLength, address)));
+            () -> Checks.done(() -> x.outbound(p, padding, muteLength, address)),
+            () -> Checks.done(() -> m.outbound(p, padding, muteLength, address)));
     }
-  }
-
-  private static Object done(Runnable call) {
-    call.run();
-    return "done";
   }
 
   private void feed(int p, int[] bytes) {

@@ -32,8 +32,8 @@ final class Sentences {
       quoted.set(at, at + words.length());
     }
     int before = Checks.checked();
-    test.run();
-    Checks.same("something was tested", Checks.checked() > before, true);
+    Checks.same("the test came to its end", Checks.outcome(() -> Checks.done(test)), "done");
+    Checks.same("something was tested", Checks.checked() > before + 1, true);
     Checks.setAbout("");
   }
 

@@ -34,10 +34,6 @@ final class TellingTest {
     return Checks.join(attributes, more);
   }
 
-  private static int[] told(int[] attributes, int... prefix) {
-    return Checks.update(NONE, attributes, prefix);
-  }
-
   private static void toWhom() {
     // told[from][to] by the roles of both
     boolean[][] due = {{true, true, true}, {true, true, true}, {true, true, false}};
@@ -59,9 +55,9 @@ final class TellingTest {
     int[] all = with(Checks.inner(2, Checks.path(5, 201), 30, 250), 4, 1, 9, 9, 1, 44, 10, 1, 45, 200, 1, 0);
     Checks.announce(x, 0, all, 8, 9);
     Checks.row("ORIGIN, PATH and NEXT alone", Checks.sent(x, 1),
-        told(Checks.outer(2, Checks.path(100, 100, 100, 5, 201), 7), 8, 9));
+        Checks.told(Checks.outer(2, Checks.path(100, 100, 100, 5, 201), 7), 8, 9));
     Checks.row("without a padding", Checks.sent(x, 2),
-        told(Checks.outer(2, Checks.path(100, 5, 201), 7), 8, 9));
+        Checks.told(Checks.outer(2, Checks.path(100, 5, 201), 7), 8, 9));
   }
 
   private static void outwardTooLong() {
@@ -71,13 +67,13 @@ final class TellingTest {
     }
     Checks.announce(x, 0, Checks.outer(0, Checks.path(200, 2, 3, 4, 5, 6), 30), 8, 9);
     Checks.row("8 in all", Checks.sent(x, 1),
-        told(Checks.outer(0, Checks.path(100, 100, 200, 2, 3, 4, 5, 6), 7), 8, 9));
+        Checks.told(Checks.outer(0, Checks.path(100, 100, 200, 2, 3, 4, 5, 6), 7), 8, 9));
     Checks.row("9 in all", Checks.sent(x, 2));
     x.outbound(1, 2, -1, 0);
     Checks.row("withdrawn when it gets too long", Checks.sent(x, 1), 6, 2, 1, 8, 9, 0);
     x.outbound(1, 0, -1, 0);
     Checks.row("told again", Checks.sent(x, 1),
-        told(Checks.outer(0, Checks.path(100, 200, 2, 3, 4, 5, 6), 7), 8, 9));
+        Checks.told(Checks.outer(0, Checks.path(100, 200, 2, 3, 4, 5, 6), 7), 8, 9));
     Checks.announce(x, 0, Checks.outer(0, Checks.path(200, 2, 3, 4, 5, 6, 7, 8), 30), 8, 9);
     Checks.row("8 are too many without a padding", Checks.sent(x, 1), 6, 2, 1, 8, 9, 0);
   }
@@ -87,22 +83,22 @@ final class TellingTest {
     int[] all = with(Checks.outer(1, Checks.path(200, 2, 3, 4, 5, 6, 7, 8), 30), 4, 1, 0, 5, 1, 9, 9, 1, 44, 10, 1, 45);
     Checks.announce(x, 0, all, 8, 9);
     int[] due = {1, 1, 1, 2, 8, 200, 2, 3, 4, 5, 6, 7, 8, 3, 1, 30, 4, 1, 0, 5, 1, 100};
-    Checks.row("to a client, METRIC 0 too", Checks.sent(x, 1), told(due, 8, 9));
-    Checks.row("to a fellow", Checks.sent(x, 2), told(due, 8, 9));
+    Checks.row("to a client, METRIC 0 too", Checks.sent(x, 1), Checks.told(due, 8, 9));
+    Checks.row("to a fellow", Checks.sent(x, 2), Checks.told(due, 8, 9));
     Checks.announce(x, 0, Checks.outer(1, Checks.path(200), 30), 8, 9);
-    Checks.row("without a METRIC", Checks.sent(x, 1), told(Checks.inner(1, Checks.path(200), 30, 100), 8, 9));
+    Checks.row("without a METRIC", Checks.sent(x, 1), Checks.told(Checks.inner(1, Checks.path(200), 30, 100), 8, 9));
   }
 
   private static void inwardReflected() {
     RouteSpeaker x = Checks.allUp(1, 1, 2, 2);
     Checks.announce(x, 0, Checks.inner(0, Checks.path(), 30, 55), 8, 9);
     int[] due = with(Checks.inner(0, Checks.path(), 30, 55), 9, 1, 20, 10, 1, 7);
-    Checks.row("a client's to a client", Checks.sent(x, 1), told(due, 8, 9));
-    Checks.row("a client's to a fellow", Checks.sent(x, 2), told(due, 8, 9));
+    Checks.row("a client's to a client", Checks.sent(x, 1), Checks.told(due, 8, 9));
+    Checks.row("a client's to a fellow", Checks.sent(x, 2), Checks.told(due, 8, 9));
     int[] all = with(Checks.inner(2, Checks.path(1, 2, 3, 4, 5, 6, 7, 8), 30, 255), 4, 1, 5, 9, 1, 44, 10, 5, 1, 2, 3, 4, 5);
     Checks.announce(x, 3, all, 8, 9);
     int[] longest = {2, 8, 1, 2, 3, 4, 5, 6, 7, 8};
-    Checks.row("a fellow's to a client", Checks.sent(x, 1), told(with(Checks.outer(2, longest, 30),
+    Checks.row("a fellow's to a client", Checks.sent(x, 1), Checks.told(with(Checks.outer(2, longest, 30),
         4, 1, 5, 5, 1, 255, 9, 1, 44, 10, 6, 7, 1, 2, 3, 4, 5), 8, 9));
     Checks.row("not to a fellow any more", Checks.sent(x, 2), 6, 2, 1, 8, 9, 0);
   }
@@ -125,10 +121,10 @@ final class TellingTest {
     x.rule(0, 0, 0, 200);
     Checks.announce(x, 0, Checks.plain(0), 8, 9);
     Checks.row("the preference of the policy", Checks.sent(x, 1),
-        told(Checks.inner(0, Checks.path(200), 30, 200), 8, 9));
+        Checks.told(Checks.inner(0, Checks.path(200), 30, 200), 8, 9));
     Checks.sent(x, 2);
     x.unrule(0);
-    Checks.row("another one is told", Checks.sent(x, 1), told(Checks.inner(0, Checks.path(200), 30, 100), 8, 9));
+    Checks.row("another one is told", Checks.sent(x, 1), Checks.told(Checks.inner(0, Checks.path(200), 30, 100), 8, 9));
     Checks.row("not to an external one, to whom it is the same", Checks.sent(x, 2));
   }
 
@@ -140,11 +136,11 @@ final class TellingTest {
     Checks.announce(x, 0, Checks.outer(0, Checks.path(200), 44), 8, 9);
     Checks.row("the same for an external one", Checks.sent(x, 1));
     Checks.row("another NEXT for an internal one", Checks.sent(x, 3),
-        told(Checks.inner(0, Checks.path(200), 44, 100), 8, 9));
+        Checks.told(Checks.inner(0, Checks.path(200), 44, 100), 8, 9));
     Checks.announce(x, 0, Checks.outer(1, Checks.path(200), 44), 8, 9);
-    Checks.row("another ORIGIN", Checks.sent(x, 1), told(Checks.outer(1, Checks.path(100, 200), 7), 8, 9));
+    Checks.row("another ORIGIN", Checks.sent(x, 1), Checks.told(Checks.outer(1, Checks.path(100, 200), 7), 8, 9));
     Checks.announce(x, 0, Checks.outer(1, Checks.path(200, 9), 44), 8, 9);
-    Checks.row("a longer PATH", Checks.sent(x, 1), told(Checks.outer(1, Checks.path(100, 200, 9), 7), 8, 9));
+    Checks.row("a longer PATH", Checks.sent(x, 1), Checks.told(Checks.outer(1, Checks.path(100, 200, 9), 7), 8, 9));
     Checks.withdraw(x, 0, 8, 9);
     Checks.row("withdrawn", Checks.sent(x, 1), 6, 2, 1, 8, 9, 0);
     Checks.withdraw(x, 0, 8, 9);
@@ -160,10 +156,10 @@ final class TellingTest {
   private static void notItsOwn() {
     RouteSpeaker x = Checks.allUp();
     Checks.announce(x, 1, Checks.plain(1), 8, 9);
-    Checks.row("told to 0", Checks.sent(x, 0), told(Checks.outer(0, Checks.path(100, 201), 7), 8, 9));
+    Checks.row("told to 0", Checks.sent(x, 0), Checks.told(Checks.outer(0, Checks.path(100, 201), 7), 8, 9));
     Checks.announce(x, 0, Checks.plain(0), 8, 9);
     Checks.row("withdrawn from 0, whose route is the best now", Checks.sent(x, 0), 6, 2, 1, 8, 9, 0);
-    Checks.row("told to 1", Checks.sent(x, 1), told(Checks.outer(0, Checks.path(100, 200), 7), 8, 9));
+    Checks.row("told to 1", Checks.sent(x, 1), Checks.told(Checks.outer(0, Checks.path(100, 200), 7), 8, 9));
   }
 
   private static void whenUp() {
@@ -176,7 +172,7 @@ final class TellingTest {
     Checks.row("not when AGREED", Checks.sent(x, 0), 2, 4);
     x.retract(8, 10);
     Checks.feed(x, 0, 2, 4);
-    int[] due = told(Checks.outer(0, Checks.path(100), 7), 8, 9);
+    int[] due = Checks.told(Checks.outer(0, Checks.path(100), 7), 8, 9);
     Checks.row("when UP", Checks.sent(x, 0), due);
     x.stop(0);
     Checks.sent(x, 0);
@@ -203,7 +199,7 @@ final class TellingTest {
     Checks.feed(x, 0, Arrays.copyOf(both, 13));
     Checks.feed(x, 0, Arrays.copyOfRange(both, 13, both.length));
     Checks.row("told behind the first, withdrawn behind the second", Checks.sent(x, 1),
-        Checks.join(told(Checks.outer(1, Checks.path(100, 200), 7), 8, 9), Checks.ints(6, 2, 1, 8, 9, 0)));
+        Checks.join(Checks.told(Checks.outer(1, Checks.path(100, 200), 7), 8, 9), Checks.ints(6, 2, 1, 8, 9, 0)));
   }
 
   private static void onceForAMessage() {
@@ -214,7 +210,7 @@ final class TellingTest {
     Checks.row("gone and come in one message", Checks.sent(x, 1));
     Checks.feed(x, 0, Checks.update(Checks.ints(8, 9), Checks.plain(0), 8, 8, 8, 7));
     Checks.row("by the order of the known", Checks.sent(x, 1), Checks.join(Checks.ints(6, 2, 1, 8, 9, 0),
-        told(Checks.outer(0, Checks.path(100, 200), 7), 8, 8), told(Checks.outer(0, Checks.path(100, 200), 7), 8, 7)));
+        Checks.told(Checks.outer(0, Checks.path(100, 200), 7), 8, 8), Checks.told(Checks.outer(0, Checks.path(100, 200), 7), 8, 7)));
   }
 
   private static void orderOfPeers() {
@@ -373,7 +369,7 @@ final class TellingTest {
     x.originate(8, 3);
     Checks.same("closed", x.session(0, 0), 0);
     Checks.row("from the beginning, before 8, 3 is told", Checks.sent(x, 1), Checks.join(
-        Checks.ints(6, 2, 1, 8, 1, 0, 6, 2, 1, 8, 2, 0), told(Checks.outer(0, Checks.path(100), 7), 8, 3)));
+        Checks.ints(6, 2, 1, 8, 1, 0, 6, 2, 1, 8, 2, 0), Checks.told(Checks.outer(0, Checks.path(100), 7), 8, 3)));
   }
 
   private static void overflowEndsFeeding() {
