@@ -105,6 +105,9 @@ final class EdgeUpdates {
     Checks.refused("and the last of them", Checks.NO_ELEMENT, () -> x.flaw(0, 4, 48));
     Checks.feed(x, 0, raw(0, 6, 255, 4, 8, 1, 8, 2));
     Checks.same("what is in attributes is not announced", x.known(), 2);
+    Checks.announce(x, 0, GOOD, 2, 0);
+    Checks.feed(x, 0, raw(0, 0));
+    Checks.same("type and count are not withdrawn", x.flaw(0, 2, 0), 0);
   }
 
   /** An attribute of one byte, which is good from a least to a greatest value. */
@@ -208,7 +211,11 @@ final class EdgeUpdates {
     leads("a name alone", 301, raw(0, 1, 200));
     leads("a name alone, and a prefix", 301, raw(0, 1, 200, 8, 9));
     leads("a name alone behind one that is whole", 301, raw(0, 3, 200, 0, 201));
+    leads("a name alone as the 60th byte", 301,
+        alone(Checks.join(Checks.attribute(200, new int[53]), Checks.ints(201))));
     leads("a value of one, and none there", 301, raw(0, 2, 200, 1));
+    leads("a value of one, and none behind the 60th byte", 301,
+        alone(Checks.join(Checks.attribute(200, new int[52]), Checks.ints(201, 1))));
     leads("a value of one, and a prefix there", 301, raw(0, 2, 200, 1, 8, 9));
     leads("a value of 255", 301, raw(0, 4, 200, 255, 0, 0));
     leads("a value of 2, to the end", 0, raw(0, 4, 200, 2, 0, 0));
@@ -401,6 +408,8 @@ final class EdgeUpdates {
     Checks.same("two of one address, and another length", z.session(1, 0), 0);
     Checks.announce(z, 2, Checks.plain(2), 0, 0, 0, 0);
     Checks.same("one twice", z.session(2, 0) * 100 + z.known(), 312);
+    Checks.announce(z, 3, Checks.join(Checks.plain(3), Checks.attribute(200, 8, 77)), 8, 77);
+    Checks.same("what stands in the attributes does not count", z.session(3, 0), 0);
     RouteSpeaker y = Checks.allUp();
     Checks.announce(y, 0, GOOD, 8, 20, 8, 21, 8, 22);
     Checks.announce(y, 1, Checks.plain(1), 8, 23, 8, 24, 8, 25, 8, 26, 8, 27, 8, 28, 8, 29, 8, 30);
