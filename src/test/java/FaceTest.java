@@ -1,13 +1,22 @@
+import java.io.IOException;
 import java.lang.reflect.Constructor;
 import java.lang.reflect.Field;
 import java.lang.reflect.Method;
 import java.lang.reflect.Modifier;
+import java.nio.file.Files;
+import java.nio.file.Path;
 import java.util.Arrays;
+import java.util.List;
 import java.util.TreeSet;
 
 /** The class has the document's whole face, and nothing else can be seen of it. */
 final class FaceTest {
-  public static void main(String[] args) {
+  private static final Path SOURCE = Path.of("src/main/java/RouteSpeaker.java");
+  private static final int LONGEST_METHOD = 60;
+  private static final String[] NOT_ALLOWED = {"->", "::", "synchronized", "finally", "assert ", "static {", "native",
+      "java.io", "java.time", "Random", "Thread", "nanoTime", "currentTimeMillis", "hashCode", "getMessage", "Exact("};
+
+  public static void main(String[] args) throws IOException {
     Class<?> type = RouteSpeaker.class;
     Checks.same("public and final", Modifier.toString(type.getModifiers()), "public final");
     Checks.same("NONE", RouteSpeaker.NONE, -1);
@@ -21,6 +30,7 @@ final class FaceTest {
       Checks.same(inside + " is public", Modifier.isPublic(inside.getModifiers()), false);
     }
     Checks.same("at most twelve classes", type.getDeclaredClasses().length < 12, true);
+    source();
     Checks.finish();
   }
 
@@ -58,10 +68,19 @@ final class FaceTest {
     for (Method method : type.getDeclaredMethods()) {
       int modifiers = method.getModifiers();
       Checks.same(method + " can be seen", Modifier.isPublic(modifiers) || Modifier.isPrivate(modifiers), true);
-      Checks.same(method + " has a name of its own",
-          Modifier.isPrivate(modifiers) && names.contains(method.getName()), false);
-      Checks.same(method + " takes at most seven", method.getParameterCount() <= 7, true);
+      formOf(method, names);
     }
+    for (Class<?> inside : type.getDeclaredClasses()) {
+      for (Method method : inside.getDeclaredMethods()) {
+        formOf(method, names);
+      }
+    }
+  }
+
+  private static void formOf(Method method, TreeSet<String> publicNames) {
+    boolean isPrivate = Modifier.isPrivate(method.getModifiers());
+    Checks.same(method + " has a name of its own", isPrivate && publicNames.contains(method.getName()), false);
+    Checks.same(method + " takes at most seven", method.getParameterCount() <= 7, true);
   }
 
   private static void fields(Class<?> type) {
@@ -80,5 +99,26 @@ final class FaceTest {
       }
       Checks.same(inside + " has some twenty fields", own <= 20, true);
     }
+  }
+
+  /** What the language of the program leaves out, as far as it can be seen by words and lines. */
+  private static void source() throws IOException {
+    List<String> lines = Files.readAllLines(SOURCE);
+    String all = String.join("\n", lines);
+    for (String word : NOT_ALLOWED) {
+      Checks.same("'" + word + "' stands in the program", all.contains(word), false);
+    }
+    Checks.same("all that is imported", lines.stream().filter(line -> line.startsWith("import")).toList(),
+        List.of("import java.util.NoSuchElementException;"));
+    int methods = 0;
+    for (int i = 0; i < lines.size(); i++) {
+      if (lines.get(i).matches("( {2}| {4})[a-zA-Z][^=;]*[(][^=;]*")) {
+        String end = lines.get(i).startsWith("    ") ? "    }" : "  }";
+        int last = lines.subList(i, lines.size()).indexOf(end);
+        methods++;
+        Checks.same("short: " + lines.get(i).strip(), last < LONGEST_METHOD, true);
+      }
+    }
+    Checks.same("methods were found", methods > 50, true);
   }
 }
